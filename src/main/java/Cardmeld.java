@@ -891,15 +891,12 @@ public final class Cardmeld {
         }
 
         void consider(int points, int one, int other) {
-            if (isMissing() || points > this.points || points == this.points && isAhead(one, other)) {
+            // The pairs come in the order of their numbers, so that of those with the same score the first one stays.
+            if (isMissing() || points > this.points) {
                 this.points = points;
                 this.one = one;
                 this.other = other;
             }
-        }
-
-        private boolean isAhead(int one, int other) {
-            return one < this.one || one == this.one && other < this.other;
         }
     }
 
