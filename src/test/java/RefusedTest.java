@@ -64,7 +64,7 @@ public final class RefusedTest {
     private static List<Questions> askEachOn(List<Script.Call> calls) {
         int cards = made(calls, new Questions()).cards();
         List<Questions> lists = List.of(ofNames(cards), ofScores(cards), ofPersons(cards), ofMerges(cards),
-                ofWays(cards), changesOfCards(cards), changesOfMerges(cards), changesOfNames(cards));
+                ofWays(cards), changesOfCards(cards), changesOfValues(cards), changesOfMerges(cards), changesOfNames(cards));
         for (Questions questions : lists) {
             Cardmeld made = made(calls, questions);
             for (int index = 0; index < questions.names.size(); index++) {
@@ -186,6 +186,30 @@ public final class RefusedTest {
             questions.add("clearName", card);
             for (int field = 1; field < 4; field++) {
                 questions.add("setNumber", card, field, -1);
+            }
+        }
+        return questions;
+    }
+
+    /** Gives each field of two cards the same and another value, so that each weight is seen. */
+    private static Questions changesOfValues(int cards) {
+        Questions questions = new Questions();
+        for (int card = 1; card < cards; card += 2) {
+            questions.add("clearName", card);
+            questions.add("clearName", card - 1);
+            questions.add("letter", card, 'a');
+            questions.add("letter", card - 1, 'o');
+            questions.add("score", card, card - 1);
+            for (int field = 1; field < 4; field++) {
+                questions.add("setNumber", card, field, 1);
+                questions.add("setNumber", card - 1, field, 2);
+                questions.add("score", card, card - 1);
+            }
+            questions.add("clearName", card);
+            questions.add("letter", card, 'o');
+            questions.add("score", card, card - 1);
+            for (int field = 1; field < 4; field++) {
+                questions.add("fieldFrom", card, field);
             }
         }
         return questions;
