@@ -60,6 +60,11 @@ public final class SentenceTest {
                     addDue(promise, line.replaceFirst("^`[^`]*`: ", ""));
                 }
             }
+            // What an argument's line says behind a comma is more than its name.
+            Matcher arguments = Pattern.compile("(?m)^- `\\w+`: (.*,.*)$").matcher(text);
+            while (arguments.find()) {
+                addDue(promise, arguments.group(1));
+            }
             Method method = face.get(headings.group(2));
             if (method != null && method.getExceptionTypes().length > 1) {
                 addDue(promise, ORDER);
